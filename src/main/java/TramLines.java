@@ -30,8 +30,8 @@ public final class TramLines {
     private static final int[] GREATEST_VALUES = {20, 30, 10};
     private static final int[] FIRST_VALUES = {2, 4, 1};
 
-    /** How many numbers trip, vehicle, count and run know, less one. */
-    private static final int LAST_WHAT = 6;
+    /** The run can be asked for the numbers from 0 to this. */
+    private static final int LAST_OF_RUN = 6;
 
     private final Line line = new Line();
     /** A copy of the line on which a change is tried out before it is known whether it is allowed. */
@@ -387,7 +387,7 @@ public final class TramLines {
     }
 
     public int run(int what) throws IllegalArgumentException {
-        if (!isFromTo(what, 0, LAST_WHAT)) {
+        if (!isFromTo(what, 0, LAST_OF_RUN)) {
             throw new IllegalArgumentException("the run has no such number");
         }
         day.pass(line);

@@ -86,6 +86,12 @@ public final class HeadwaysTest {
         Check.due("3 minutes are no bunch then", x.bunches(1, 11), 0);
         Check.due("least of one", x.headway(1, 11, false), 3);
         Check.due("greatest of one", x.headway(1, 11, true), 3);
+        TramLines y = line();
+        y.addTrip(11, 0, 3);
+        Check.dueDouble("mean of one", y.meanHeadway(1, 11), 3.0);
+        y.addTrip(11, 0, 0);
+        y.cancel(5, true);
+        Check.due("greatest of one of 0", y.headway(1, 11, true), 0);
     }
 
     private static void tooFewPassages() {

@@ -218,6 +218,13 @@ public final class RelinkingTest {
         x.give(5, 0);
         x.cancel(0, false);
         Check.due("one in a duty", x.nextTrip(0), 5);
+        x.addTrip(0, 11, 84);
+        x.cancel(3, true);
+        Check.due("the latest one that was added", x.nextTrip(2), 7);
+        TramLines y = new TramLines();
+        y.addTrip(11, 0, 40);
+        y.addTrip(0, 11, 0);
+        Check.due("the first one that was added", y.nextTrip(1), 0);
     }
 
     private static void dueDuty(String what, TramLines x, int vehicle, int... trips) {

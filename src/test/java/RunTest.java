@@ -67,6 +67,15 @@ public final class RunTest {
         Check.due("not the third one", x.actual(0, 2, true), 17);
         Check.due("unblock(0)", x.unblock(0), 0);
         Check.due("in time", x.delay(0), 0);
+        x.block(5, 0, 15);
+        x.block(6, 16, 18);
+        x.block(7, 20, 25);
+        Check.due("unblock(0) of three", x.unblock(0), 2);
+        Check.due("the second one keeps its minutes", x.actual(0, 6, true), 19);
+        Check.due("the third one keeps its minutes", x.actual(0, 7, true), 26);
+        x.unblock(0);
+        Check.due("before the third one", x.actual(0, 6, true), 18);
+        Check.due("the third one is left", x.actual(0, 7, true), 26);
     }
 
     private static void plainRun() {
