@@ -8,8 +8,21 @@ final class Check {
 
     private static int checks = 0;
     private static int wrong = 0;
+    private static int sentences = 0;
+    private static String sentence = "";
 
     private Check() {
+    }
+
+    /** Tells the words of the document that the checks behind this call are about. */
+    static void sentence(String words) {
+        sentences++;
+        sentence = words;
+    }
+
+    /** The numbers next to a range on both sides, and the ones farthest from it. */
+    static int[] outside(int first, int last) {
+        return new int[] {first - 1, last + 1, Integer.MIN_VALUE, Integer.MAX_VALUE};
     }
 
     static void due(String what, long got, long want) {
@@ -81,12 +94,13 @@ final class Check {
     private static void tell(String text) {
         wrong++;
         if (wrong <= 50) {
-            System.out.println(text);
+            System.out.println(sentence.isEmpty() ? text : text + "\n    " + sentence);
         }
     }
 
     static void finish() {
-        System.out.println(checks + " checks, " + wrong + " wrong");
+        String of = sentences == 0 ? "" : " of " + sentences + " sentences";
+        System.out.println(checks + " checks" + of + ", " + wrong + " wrong");
         if (wrong != 0) {
             System.exit(1);
         }
